@@ -1253,7 +1253,7 @@ public final class JigsawHole {
             int found = 1 << start;
             int ends = 1;
             queue[0] = start;
-            for (int i = 0; i < ends; i++) {
+            for (int i = 0; i < ends && i < CELLS; i++) {
                 for (int side = 0; side < SIDES; side++) {
                     int next = linked(state, queue[i], side) ? table.beside(queue[i], side) : NONE;
                     if (next != NONE && (found >> next & 1) == 0 && ends < CELLS
@@ -1421,9 +1421,7 @@ public final class JigsawHole {
             Arrays.fill(best, NONE);
             best[0] = 0;
             for (int at = 0; at < CELLS; at++) {
-                if (at % WIDE < table.across && at / WIDE < table.down) {
-                    goOverCell(at);
-                }
+                goOverCell(at);
             }
             int most = 0;
             for (int mask = 0; mask < MASKS; mask++) {

@@ -72,4 +72,14 @@ final class Check {
         }
         return hole;
     }
+
+    /** LOT 100, in longs. */
+    static int lot(int seed, int which) {
+        long h = seed;
+        for (int it : new int[] {123, which}) {
+            h = (h ^ it) * 1103515245L + 12345 & 0xffffffffL;
+            h ^= h >> 15;
+        }
+        return (int) ((h >> 1) % 100);
+    }
 }

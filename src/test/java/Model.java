@@ -453,23 +453,14 @@ final class Model {
             "day", lying.day)), 0, 100);
     }
 
-    private static int lot(int seed, int which) {
-        long h = seed;
-        for (int it : new int[] {123, which}) {
-            h = (h ^ it) * 1103515245L + 12345 & 0xffffffffL;
-            h ^= h >> 15;
-        }
-        return (int) ((h >> 1) % 100);
-    }
-
     private Lying tomorrow(Lying lying, int ofSeed) {
         Lying next = lying.copy();
         for (int land = 0; land < 5; land++) {
             next.paid += taxes(lying, land);
         }
-        if (lot(ofSeed, 64 * lying.day) < knocks) {
+        if (Check.lot(ofSeed, 64 * lying.day) < knocks) {
             for (int key : lying.things.keySet()) {
-                if (lot(ofSeed, 64 * lying.day + 1 + key) < falls(lying, key % 6, key / 6)) {
+                if (Check.lot(ofSeed, 64 * lying.day + 1 + key) < falls(lying, key % 6, key / 6)) {
                     next.things.remove(key);
                     next.took++;
                 }
@@ -934,7 +925,7 @@ final class Model {
         }
         int[] answers = {
             rows.isEmpty() ? 0 : rows.get(0).length(), rows.size(), spares.size(), now.day, now.things.size(), now.paid,
-            wet(now.day) ? 1 : 0, lot(seed, 64 * now.day) < knocks ? 1 : 0,
+            wet(now.day) ? 1 : 0, Check.lot(seed, 64 * now.day) < knocks ? 1 : 0,
             (int) String.join("", rows).chars().filter(c -> c == 'o').count(), tape.length(), done.size(), told.size(),
             held, now.took, pressed(), lands,
         };

@@ -11,7 +11,8 @@ public final class ModelTest {
     private final StringBuilder said = new StringBuilder();
 
     private ModelTest(int run) {
-        random = new Random(run);
+        // Alike seeds begin alike, so that they are spread first.
+        random = new Random(run * 0x9E3779B97F4A7C15L);
         said.append("run ").append(run);
     }
 
@@ -23,7 +24,9 @@ public final class ModelTest {
     }
 
     private void play() {
-        readText();
+        for (int i = 0; i < 5 && hole.count(0) == 0; i++) {
+            readText();
+        }
         for (int i = 0; i < 380 && CHECK.isGood(); i++) {
             if (random.nextInt(90) == 0) {
                 readText();
@@ -194,8 +197,16 @@ public final class ModelTest {
         private final Random random;
         private final StringBuilder text = new StringBuilder();
 
+        // Whether numbers, letters and NAMES are at times other ones than may be told.
+        private final boolean wild;
+
         TextMaker(Random random) {
             this.random = random;
+            this.wild = random.nextInt(8) == 0;
+        }
+
+        private boolean odd() {
+            return wild && random.nextInt(12) == 0;
         }
 
         String text() {
@@ -208,7 +219,7 @@ public final class ModelTest {
                 for (int x = 0; x < wide; x++) {
                     text.append(random.nextInt(10) < holes ? 'o' : (char) ('a' + random.nextInt(3 + random.nextInt(3))));
                 }
-                text.append(";");
+                text.append(odd() ? "f;" : odd() ? "a;" : ";");
             }
             int most = random.nextInt(4);
             int knobs = most == 0 ? 0 : random.nextInt(room ? 45 : 41);
@@ -217,7 +228,7 @@ public final class ModelTest {
             }
             int spares = random.nextInt(room ? 8 : 6);
             for (int i = 0; i < spares; i++) {
-                text.append("spare ").append((char) ('a' + i)).append(random.nextInt(30) == 0 ? "" : "x");
+                text.append("spare ").append((char) ('a' + (odd() ? 0 : i))).append(i % 2 == 0 ? "" : "x");
                 for (int side = 0; side < 4; side++) {
                     addSigned(random.nextInt(4));
                 }
@@ -230,17 +241,18 @@ public final class ModelTest {
         private void addKnob(int wide, int high, int most) {
             int x = random.nextInt(wide);
             int y = random.nextInt(high);
-            // HOLES have no KNOBS: at its place in the rows told so far
-            if (text.charAt(y * (5 + wide) + 4 + x) == 'o' && random.nextInt(400) != 0) {
+            // HOLES have no KNOBS; the letter stands at this place of the rows ahead (if all are alike long)
+            boolean hole = text.charAt(y * (5 + wide) + 4 + x) == 'o';
+            if (hole && !odd()) {
                 return;
             }
-            text.append("knob ").append(x).append(' ').append(y).append(' ').append(random.nextInt(4));
+            text.append("knob ").append(odd() ? 6 : x).append(' ').append(odd() ? 5 : y).append(' ').append(odd() ? 4 : random.nextInt(4));
             addSigned(random.nextInt(most + 1));
             text.append(";");
         }
 
         private void addSigned(int number) {
-            text.append(random.nextInt(2) == 0 ? " -" : " ").append(number);
+            text.append(random.nextInt(2) == 0 ? " -" : " ").append(odd() ? 4 + random.nextInt(9000) : number);
         }
 
         private void addLaws(boolean room) {
@@ -266,7 +278,7 @@ public final class ModelTest {
                 }
             }
             if (random.nextInt(5) > 0) {
-                text.append("knocks ").append(random.nextInt(101)).append(";");
+                text.append("knocks ").append(random.nextInt(odd() ? 10000 : 101)).append(";");
             }
             text.append("seed ").append(random.nextInt(10000)).append(";");
         }

@@ -49,15 +49,6 @@ public final class PromiseTest {
         CHECK.due(what, want, got);
     }
 
-    private static int lot(int seed, int which) {
-        long h = seed;
-        for (int it : new int[] {123, which}) {
-            h = (h ^ it) * 1103515245L + 12345 & 0xffffffffL;
-            h ^= h >> 15;
-        }
-        return (int) ((h >> 1) % 100);
-    }
-
     private static void newObject() {
         due("NONE", -1, JigsawHole.NONE);
         JigsawHole x = new JigsawHole();
@@ -301,13 +292,13 @@ public final class PromiseTest {
         }
         int took = 0;
         for (int day = 0; day < 12; day++) {
-            boolean knock = lot(77, 64 * day) < 40;
+            boolean knock = Check.lot(77, 64 * day) < 40;
             due("KNOCK on " + day, knock ? 1 : 0, x.count(7));
             boolean[] then = lies.clone();
             for (int at = 0; at < 18 && knock; at++) {
                 int joined = (at % 6 > 0 && then[at - 1] ? 1 : 0) + (at % 6 < 5 && then[at + 1] ? 1 : 0)
                     + (at >= 6 && then[at - 6] ? 1 : 0) + (at < 12 && then[at + 6] ? 1 : 0);
-                if (then[at] && lot(77, 64 * day + 1 + at) < 30 + joined * 5 + day) {
+                if (then[at] && Check.lot(77, 64 * day + 1 + at) < 30 + joined * 5 + day) {
                     lies[at] = false;
                     took++;
                 }
@@ -335,10 +326,15 @@ public final class PromiseTest {
         int left = 0;
         for (int at = 0; at < 30; at++) {
             half.lay(at % 6, at / 6);
-            left += lot(3, 1 + at) < 50 ? 0 : 1;
+            left += Check.lot(3, 1 + at) < 50 ? 0 : 1;
         }
         half.days(1);
         due("FALLS 50 if not told", left, half.count(4));
+        JigsawHole unseeded = Check.of("knocks 50;");
+        for (int day = 0; day < 60; day++) {
+            due("SEED 0 if not told, day " + day, Check.lot(0, 64 * day) < 50 ? 1 : 0, unseeded.count(7));
+            unseeded.days(1);
+        }
     }
 
     private static void undo() {
