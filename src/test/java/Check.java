@@ -1,3 +1,7 @@
+import java.util.ArrayList;
+import java.util.Arrays;
+import java.util.List;
+
 /** What the tests share: counting answers that are not due, and feeding texts. */
 final class Check {
     private final String name;
@@ -20,6 +24,13 @@ final class Check {
 
     void due(String what, boolean want, boolean got) {
         due(what, want ? 1 : 0, got ? 1 : 0);
+    }
+
+    void due(String what, String want, String got) {
+        if (!want.equals(got)) {
+            System.out.println(name + ": " + what + ": '" + got + "', due is '" + want + "'");
+        }
+        due(what, true, want.equals(got));
     }
 
     boolean isGood() {
@@ -71,6 +82,46 @@ final class Check {
             throw new IllegalStateException("fault " + fault + " at " + hole.place() + " of " + text);
         }
         return hole;
+    }
+
+    /** What a call that is refused must leave as it was: all counts, the place, and of each CELL what LIES in it. */
+    static String state(JigsawHole hole) {
+        StringBuilder all = new StringBuilder();
+        for (int what = 0; what < 16; what++) {
+            all.append(hole.count(what)).append(' ');
+        }
+        all.append('@').append(hole.place());
+        int wide = hole.count(0);
+        int high = hole.count(1);
+        for (int at = 0; at < wide * high; at++) {
+            all.append(' ').append(hole.cell(at % wide, at / wide, 1)).append(',').append(hole.cell(at % wide, at / wide, 4));
+        }
+        return all.toString();
+    }
+
+    /** Numbers that are none of 0 .. n - 1: the nearest on either side, and far ones that could wrap into it. */
+    static int[] beyond(int n) {
+        int[] all = {-1, -2, -31, -32, -64, n, n + 1, 31, 32, 64, 128, 256, 65536, Integer.MIN_VALUE, Integer.MAX_VALUE};
+        return Arrays.stream(all).filter(one -> one < 0 || one >= n).toArray();
+    }
+
+    /** X and Y of no CELL: just beside a table, far off, and those that could be taken for one of the next or last row's. */
+    static List<int[]> besideTable(int wide, int high) {
+        List<int[]> all = new ArrayList<>();
+        for (int odd : beyond(wide)) {
+            all.add(new int[] {odd, 0});
+            all.add(new int[] {odd, high - 1});
+        }
+        for (int odd : beyond(high)) {
+            all.add(new int[] {0, odd});
+            all.add(new int[] {wide - 1, odd});
+        }
+        all.add(new int[] {wide, high});
+        all.add(new int[] {-1, -1});
+        all.add(new int[] {-1, 1});
+        all.add(new int[] {6, 0});
+        all.add(new int[] {6, -1});
+        return all;
     }
 
     /** LOT 100, in longs. */

@@ -3,12 +3,17 @@ import java.util.Random;
 /** Random runs of calls beside the model, with random texts, good and faulty; the same ones each time. */
 public final class ModelTest {
     private static final Check CHECK = new Check("ModelTest");
-    private static final int RUNS = 600;
+    private static final int RUNS = 900;
+    /** What an object tells behind these is free. */
+    private static final int MOST_CALLS = 512;
+    private static final int CALLS_OF_ALL_CELLS = 270;
+    private static final int CALLS_OF_A_TEXT = 103;
 
     private final Random random;
     private final JigsawHole hole = new JigsawHole();
     private final Model model = new Model();
     private final StringBuilder said = new StringBuilder();
+    private int calls = 0;
 
     private ModelTest(int run) {
         // Alike seeds begin alike, so that they are spread first.
@@ -24,11 +29,11 @@ public final class ModelTest {
     }
 
     private void play() {
-        for (int i = 0; i < 5 && hole.count(0) == 0; i++) {
+        for (int i = 0; i < 3 && model.count(0) == 0; i++) {
             readText();
         }
-        for (int i = 0; i < 380 && CHECK.isGood(); i++) {
-            if (random.nextInt(90) == 0) {
+        while (calls < MOST_CALLS - 20 && CHECK.isGood()) {
+            if (random.nextInt(90) == 0 && hasRoomFor(CALLS_OF_A_TEXT)) {
                 readText();
             } else {
                 call(random.nextInt(60));
@@ -39,7 +44,12 @@ public final class ModelTest {
         }
     }
 
+    private boolean hasRoomFor(int more) {
+        return calls + more <= MOST_CALLS;
+    }
+
     private void due(String call, int want, int got) {
+        calls++;
         said.append('\n').append(call).append(" -> ").append(want);
         CHECK.due(call, want, got);
     }
@@ -55,11 +65,11 @@ public final class ModelTest {
     }
 
     private int x() {
-        return about(random.nextBoolean() ? 6 : Math.max(1, hole.count(0)));
+        return about(random.nextBoolean() ? 6 : Math.max(1, model.count(0)));
     }
 
     private int y() {
-        return about(random.nextBoolean() ? 5 : Math.max(1, hole.count(1)));
+        return about(random.nextBoolean() ? 5 : Math.max(1, model.count(1)));
     }
 
     private void call(int which) {
@@ -138,7 +148,7 @@ public final class ModelTest {
 
     private void tell() {
         int side = about(4);
-        int knob = random.nextInt(3) == 0 ? about(8) - 4 : hole.spare(about(5), about(4), 0);
+        int knob = random.nextInt(3) == 0 ? about(8) - 4 : model.spare(about(5), about(4), 0);
         due("tell " + side + " " + knob, model.tell(side, knob), hole.tell(side, knob));
     }
 
@@ -150,7 +160,7 @@ public final class ModelTest {
 
     private void press(int x, int y, int t) {
         int spare = about(5);
-        int first = hole.spares(x, y, 1);
+        int first = model.spares(x, y, 1);
         if (first >= 0 && random.nextBoolean()) {
             spare = first / 10;
             t = first % 10;
@@ -159,6 +169,9 @@ public final class ModelTest {
     }
 
     private void allCells() {
+        if (!hasRoomFor(CALLS_OF_ALL_CELLS)) {
+            return;
+        }
         for (int y = 0; y < 5; y++) {
             for (int x = 0; x < 6; x++) {
                 for (int what = 0; what < 5; what++) {
