@@ -113,6 +113,13 @@ public final class LookEdgeTest {
         }
         due("clash of what is PRESSED", 0, hole.clash(2, 1));
         due("clash of what LIES", 0, hole.clash(1, 0));
+        JigsawHole knobs = Check.of("row aob;knob 0 0 1 2;knob 2 0 3 1;spare s 3 - 1 3 - 2;");
+        knobs.lay(0, 0);
+        due("press", 1, as(knobs.press(0, 1, 0, 0)));
+        due("clash of what is PRESSED, by its own KNOBS", 0, knobs.clash(1, 0));
+        due("clash with what is PRESSED, by its own KNOBS", 0, knobs.clash(2, 0));
+        due("lay next to what is PRESSED", 1, as(knobs.lay(2, 0)));
+        due("clash of what is PRESSED between two", 0, knobs.clash(1, 0));
         JigsawHole corners = laid(FULL);
         due("clash at the first corner", 0, corners.clash(0, 0));
         due("clash at the last corner", 0, corners.clash(5, 4));

@@ -19,6 +19,9 @@ public final class PlayEdgeTest {
         varsOfTaxes();
         varsOfWet();
         varsOfFalls();
+        eachStep();
+        eachFall();
+        eachSize();
         heldLaws();
         lessThan();
         wraps();
@@ -354,6 +357,77 @@ public final class PlayEdgeTest {
             hole.days(5);
             due("FALLS, " + VARS[i], 7 + 10 * e[i], hole.cell(2, 1, 3));
             due("FALLS of a SPARE, " + VARS[i], 7 + 10 * spare[i], hole.cell(1, 0, 3));
+        }
+    }
+
+    private static final String[] LETTERS = {"aabbcd", "abbocd", "eeooad", "edaooc", "oaabbb"};
+    private static final int[] DX = {0, 1, 0, -1};
+    private static final int[] DY = {-1, 0, 1, 0};
+
+    private static int landAt(int x, int y) {
+        char letter = LETTERS[y].charAt(x);
+        return letter == 'o' ? 9 : letter - 'a';
+    }
+
+    private static void eachStep() {
+        String rows = "row " + String.join(";row ", LETTERS) + ";";
+        JigsawHole place = Check.of(rows + "ways = 1 + 10 * across + down;");
+        JigsawHole land = Check.of(rows + "ways = 1 + 4 * land + side;");
+        JigsawHole same = Check.of(rows + "ways = 2 + same;");
+        for (int at = 0; at < 120; at++) {
+            int x = at / 4 % 6;
+            int y = at / 4 / 6;
+            int side = at % 4;
+            int toX = x + DX[side];
+            int toY = y + DY[side];
+            boolean on = toX >= 0 && toX < 6 && toY >= 0 && toY < 5;
+            String what = " from " + x + " " + y + " over " + side;
+            due("across and down" + what, on ? 1 + 10 * x + y : -1, place.step(x, y, side));
+            due("land and side" + what, on ? 1 + 4 * landAt(x, y) + side : -1, land.step(x, y, side));
+            // a HOLE is of no LAND
+            boolean alike = on && landAt(x, y) != 9 && landAt(x, y) == landAt(toX, toY);
+            due("same" + what, on ? 2 + as(alike) : -1, same.step(x, y, side));
+        }
+    }
+
+    private static void eachFall() {
+        String rows = "row " + String.join(";row ", LETTERS) + ";";
+        JigsawHole place = laid(rows + "falls = 1 + 10 * across + down;");
+        JigsawHole land = laid(rows + "falls = 1 + 5 * land + joined;");
+        for (int at = 0; at < 30; at++) {
+            int x = at % 6;
+            int y = at / 6;
+            int joined = 0;
+            for (int side = 0; side < 4; side++) {
+                int toX = x + DX[side];
+                int toY = y + DY[side];
+                joined += as(toX >= 0 && toX < 6 && toY >= 0 && toY < 5 && landAt(toX, toY) != 9);
+            }
+            boolean lies = landAt(x, y) != 9;
+            due("cell LAND of " + x + " " + y, landAt(x, y), place.cell(x, y, 0));
+            due("across and down of " + x + " " + y, lies ? 1 + 10 * x + y : 0, place.cell(x, y, 3));
+            due("land and joined of " + x + " " + y, lies ? 1 + 5 * landAt(x, y) + joined : 0, land.cell(x, y, 3));
+            due("FITS of " + x + " " + y, lies ? joined : 0, land.cell(x, y, 2));
+        }
+    }
+
+    private static void eachSize() {
+        for (int wide = 1; wide <= 6; wide++) {
+            for (int high = 1; high <= 5; high++) {
+                JigsawHole holes = Check.of(("row " + "oooooo".substring(0, wide) + ";").repeat(high) + "spare s 0 0 0 0;");
+                due("HOLES of " + wide + " " + high, wide * high, holes.count(8));
+                due("HOMES of " + wide + " " + high, wide * high, holes.homes(0));
+                due("no pieces of " + wide + " " + high, 0, holes.free());
+                due("press in the last one", true, holes.press(0, wide - 1, high - 1, 0));
+                JigsawHole pieces = Check.of(("row " + "eeeeee".substring(0, wide) + ";").repeat(high));
+                due("X of " + wide + " " + high, wide, pieces.count(0));
+                due("ROWS of " + wide + " " + high, high, pieces.count(1));
+                due("pieces of " + wide + " " + high, wide * high, pieces.land(4, 0));
+                due("FREE of " + wide + " " + high, wide * high, pieces.free());
+                due("no HOLES of " + wide + " " + high, 0, pieces.count(8));
+                due("lay the last one", true, pieces.lay(wide - 1, high - 1));
+                due("more to the last one", wide + high - 2, pieces.more(0, 0, wide - 1, high - 1));
+            }
         }
     }
 
