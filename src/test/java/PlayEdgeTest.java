@@ -994,6 +994,16 @@ public final class PlayEdgeTest {
         due("LANDS", 0, hole.count(15));
         due("PRESSED", 0, hole.count(14));
         due("TAXES paid", 22, hole.count(5));
+        JigsawHole mixed = Check.of("row eoob;spare s 0 0 0 0;");
+        mixed.press(0, 1, 0, 0);
+        due("LANDS when a SPARE LIES alone", 0, mixed.count(15));
+        mixed.lay(0, 0);
+        due("LANDS beside a HOLE", 16, mixed.count(15));
+        mixed.lay(3, 0);
+        due("LANDS beside HOLES", 18, mixed.count(15));
+        mixed.take(1, 0);
+        mixed.press(0, 2, 0, 0);
+        due("LANDS, the SPARE elsewhere", 18, mixed.count(15));
         JigsawHole full = laid(FULL);
         due("LYING of 30", 30, full.count(4));
         due("HOLES of none", 0, full.count(8));
