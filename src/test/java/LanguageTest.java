@@ -7,8 +7,10 @@ import java.nio.charset.StandardCharsets;
 import java.nio.file.Files;
 import java.nio.file.Path;
 import java.util.Arrays;
+import java.util.HashMap;
 import java.util.HashSet;
 import java.util.List;
+import java.util.Map;
 import java.util.Set;
 import java.util.TreeSet;
 import java.util.regex.Matcher;
@@ -30,10 +32,16 @@ public final class LanguageTest {
         "\\bSystem\\.(?!arraycopy)", "\\bRandom\\b", "\\bThread\\b", "\\bObject\\b", "\\bequals\\b", "\\bhashCode\\b",
         "\\btoString\\b", "\\bInteger\\.(?!bitCount|MAX_VALUE|MIN_VALUE)", "\\bMath\\.(?!max|min)", "\\bArrays\\.(?!fill)"};
 
+    /** Rows are made in constructors alone: all calls of a run share one room. */
+    private static final String MADE_ONCE = " +(private final .* = new .*;|(done|slots)\\[i\\] = new State\\(\\);)";
+    private static final Map<String, String> OTHER_NAMES = Map.of("now", "State", "would", "State", "draft", "Table",
+        "done", "State", "slots", "State");
+
     public static void main(String[] args) throws IOException {
         face();
         inside();
         source();
+        chains();
         CHECK.end();
     }
 
@@ -113,6 +121,9 @@ public final class LanguageTest {
             is("no " + word, !matcher.find());
         }
         is("signs up to 127", text.chars().allMatch(c -> c < 127));
+        for (String line : code.split("\n")) {
+            is("made with its object: " + line.trim(), !line.contains("new ") || line.matches(MADE_ONCE));
+        }
         int begun = -1;
         String[] lines = text.split("\n");
         for (int i = 0; i < lines.length; i++) {
@@ -123,5 +134,57 @@ public final class LanguageTest {
                 begun = -1;
             }
         }
+    }
+
+    /** Calls that stand open at once, a recursion counted once: at most eight, by what each method's lines name. */
+    private static void chains() throws IOException {
+        Map<String, Set<String>> calls = new HashMap<>();
+        String inside = "JigsawHole";
+        String method = "";
+        for (String line : Files.readAllLines(SOURCE, StandardCharsets.ISO_8859_1)) {
+            Matcher head = Pattern.compile(" {4}( {4})?(?! )[^=(]*?(\\w+)\\([^()]*\\) \\{").matcher(line);
+            Matcher part = Pattern.compile(" {4}private static final class (\\w+) \\{").matcher(line);
+            if (part.matches()) {
+                inside = part.group(1);
+            } else if (head.matches() && !line.matches(" +(if|for|while|switch) .*")) {
+                method = inside + "." + head.group(2);
+                calls.putIfAbsent(method, new HashSet<>());
+            } else if (!method.isEmpty()) {
+                addCalls(line, inside, calls.get(method));
+            }
+        }
+        is("methods are found", calls.size() > 120);
+        int longest = 0;
+        for (String one : calls.keySet()) {
+            longest = Math.max(longest, longestFrom(one, calls, new HashSet<>()));
+        }
+        is("calls go at most eight deep: " + longest, longest <= 8 && longest > 4);
+    }
+
+    /** A receiver bears its class's name, but for those of OTHER_NAMES; one that is none of them is of the library. */
+    private static void addCalls(String line, String inside, Set<String> called) {
+        Matcher matcher = Pattern.compile("(?:(\\w+)(?:\\[\\w+\\])?\\.)?\\b(\\w+)\\(").matcher(line);
+        while (matcher.find()) {
+            String receiver = matcher.group(1);
+            if (receiver == null) {
+                called.add(inside + "." + matcher.group(2));
+                called.add("JigsawHole." + matcher.group(2));
+            } else {
+                String name = OTHER_NAMES.getOrDefault(receiver, receiver);
+                called.add(Character.toUpperCase(name.charAt(0)) + name.substring(1) + "." + matcher.group(2));
+            }
+        }
+    }
+
+    private static int longestFrom(String method, Map<String, Set<String>> calls, Set<String> open) {
+        if (!calls.containsKey(method) || !open.add(method)) {
+            return 0;
+        }
+        int longest = 0;
+        for (String one : calls.get(method)) {
+            longest = Math.max(longest, longestFrom(one, calls, open));
+        }
+        open.remove(method);
+        return longest + 1;
     }
 }
